@@ -212,6 +212,13 @@ public final class PromisesTest {
         due("no rule is the first one", Check.lakeOf(x, 0, 8), (Check.lakeOf(x, 0, 5) + 2) / 3);
         String forty = "1+1+1+1+1+1+1+1+1+1+1+1+1+1+1+1+1+1+1+99";
         due("forty signs", run(forty), 99);
+        PullThePlug y = Check.made("9970a-");
+        y.pulls(0);
+        y.sheet(2, 1, 60, 0);
+        Check.rule(y, "l-50");
+        due("l is LEVEL", Check.lakeOf(y, 0, 8), 10);
+        Check.rule(y, "b-50");
+        due("b is BRIM", Check.lakeOf(y, 0, 8), 49);
         due("the least int by -1", run("-(512*512*512*16/-1/512/512/512)"), 16);
     }
 
@@ -562,6 +569,9 @@ public final class PromisesTest {
         y.sheet(2, 2, 0, 0);
         due("SPILT till then", y, y.brims(1), 99, 98 * 5);
         due("brims now", three().brims(0), 0);
+        y.days(2);
+        y.sheet(2, 2, 5, 93);
+        due("SPILT from now on", y, y.brims(1), 1, 5);
         y.sheet(3, 0, 0, 0);
         due("dries now", y, y.dries(1), 0, 0);
         y.taps(1, 0);
@@ -665,6 +675,7 @@ public final class PromisesTest {
         x.pulls(0);
         x.sheet(2, 1, 20, 0);
         due("with a gap", x, x.swims(0, 20, 10), 9, 6, 1);
+        due("one DAY", x, x.swims(0, 0, 1), 1, 1, 1);
         due("n 0", x.swims(0, 0, 0), -1);
         due("n 100", x.swims(0, 0, 100), -1);
         due("v 100", x.swims(0, 100, 1), -1);
@@ -678,6 +689,8 @@ public final class PromisesTest {
         due("lets(1, 6)", x, x.lets(1, 6), 1, 2);
         due("lets(1, 12)", x, x.lets(1, 12), 0, 0);
         due("lets(1, 5)", x.lets(1, 5), -2);
+        due("lets(1, 0)", x.lets(1, 0), -2);
+        due("lets(1, 40)", x, x.lets(1, 40), 0, 0);
         due("lets(1, 41)", x.lets(1, 41), -1);
         due("lets(1, -1)", x.lets(1, -1), -1);
         due("lets(3, 1)", x.lets(3, 1), -1);
@@ -699,6 +712,7 @@ public final class PromisesTest {
         due("just(2, 6)", x, x.just(2, 6), 1, 2);
         due("just(0, 6)", x, x.just(0, 6), 0, 0);
         due("just(7, 5)", x.just(7, 5), -2);
+        due("just(0, 0)", x, x.just(0, 0), 0, 0);
         due("just(8, 1)", x.just(8, 1), -1);
         due("just(-1, 1)", x.just(-1, 1), -1);
         due("just(0, 41)", x.just(0, 41), -1);
@@ -735,6 +749,8 @@ public final class PromisesTest {
         due("needs(1, 9, 60)", x, x.needs(1, 9, 60), 1, 12);
         x.sheet(3, 0, 0, 0);
         due("needs(1, 10, 2)", x, x.needs(1, 10, 2), 6, 11);
+        due("needs(0, 9, 1)", x, x.needs(0, 9, 1), 9, 9);
+        due("needs(0, 10, 1)", x.needs(0, 10, 1), -2);
         due("needs(1, 10, 0)", x.needs(1, 10, 0), -2);
         due("TAP stays", Check.lakeOf(x, 1, 1), 0);
         due("v 100", x.needs(0, 100, 1), -1);
@@ -759,6 +775,8 @@ public final class PromisesTest {
         hair.days(5);
         due("LEVEL", hair.count(4), 13);
         due("HAIR taken out", hair, hair.crosses(1), 0, 1005);
+        PullThePlug alike = Check.made("5000a-;5000b-");
+        due("of equal ones the first", alike, alike.crosses(40), 0, 1037);
         PullThePlug more = Check.made("5000a-;5000b-");
         Check.rule(more, "(k=1)*5");
         more.pulls(0);
@@ -823,6 +841,17 @@ public final class PromisesTest {
         due("first DAY tells all", y, y.reads(), 1, 1);
         PullThePlug z = Check.made("9990a-");
         due("TAP 9 hides all", z, z.reads(), 0, 9);
+        PullThePlug late = Check.made("9900a-;9900b0");
+        Check.rule(late, "(k=1)*(l<2)");
+        late.pulls(0);
+        late.taps(1, 9);
+        due("a leak of 1 in 9 of TAP hides", late, late.reads(), 1, 9);
+        PullThePlug last = Check.made("0412a-;4121a0");
+        Check.year(last, "p0p1");
+        due("the last DAY tells most", last, last.reads(), 20, 9);
+        x.washes();
+        x.ring(0, 20, 10);
+        due("a ring of the last DAY leaves one", x, x.reads(), 0, 1);
         PullThePlug w = Check.made("0900a-");
         w.sheet(2, 1, 5, 0);
         due("leaks of 5 and more are alike", w, w.reads(), 1, 5);
@@ -873,6 +902,10 @@ public final class PromisesTest {
         due("wants(-1)", x.wants(-1), -1);
         x.sheet(2, 2, 10, 0);
         due("half is not more than half", x, x.wants(1), 1, 1);
+        x.sheet(2, 3, 0, 1);
+        due("the other half is not, either", x, x.wants(1), 1, 4);
+        PullThePlug y = Check.made("0100a-;0100a-");
+        due("all", y, y.wants(3), 2, 3);
         x.sheet(3, 0, 0, 0);
         due("by none", x.wants(0), -2);
         due("no LAKES", new PullThePlug().wants(0), -2);
@@ -887,6 +920,10 @@ public final class PromisesTest {
         due("evenly", x, x.evens(), 0, 2);
         x.sheet(2, 1, 9, 0);
         due("nothing is as good", x, x.evens(), 9, 0);
+        x.sheet(2, 3, 24, -10);
+        due("24 against 12 and 4", x, x.evens(), 8, 6);
+        PullThePlug two = Check.made("0800a-;0900a-");
+        due("two", two, two.evens(), 1, 2);
         PullThePlug none = new PullThePlug();
         due("no LAKES", none, none.evens(), 0, 0);
         PullThePlug one = Check.made("4400a-");
@@ -973,6 +1010,8 @@ public final class PromisesTest {
         PullThePlug x = new PullThePlug();
         due("rests(0)", x, x.rests(0), 4, 0, 0);
         due("rests(1)", x, x.rests(1), 5, 0, 1);
+        due("rests(2)", x, x.rests(2), 4, 1, 1);
+        due("rests(20)", x, x.rests(20), 0);
         due("rests(21)", x.rests(21), -1);
         due("rests(-1)", x.rests(-1), -1);
         int least = 0;
@@ -1032,6 +1071,10 @@ public final class PromisesTest {
             due("years by " + seed, asked, asked.years(seed, 20), done.count(4), done.count(2), done.count(3));
             due("a question", asked.count(1) + asked.count(5) + asked.count(9), 0);
         }
+        PullThePlug dried = Check.made("0501a-;0100b-");
+        dried.days(5);
+        due("DRIED, once", dried.count(3), 1);
+        due("no more in these", dried, dried.years(5, 1), 1, 0, 0);
         PullThePlug none = new PullThePlug();
         due("no LAKES", none, none.years(7, 60), 0, 0, 0);
         due("n 61", none.years(1, 61), -1);
