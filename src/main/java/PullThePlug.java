@@ -974,8 +974,8 @@ public final class PullThePlug {
     }
 
     /** What a DRAW of 4 tells, done in the trial. */
-    private void doDrawn(int told) {
-        if (told < 2) {
+    private void doDrawn(int what) {
+        if (what < 2) {
             land.passDay(trial, inForce);
             return;
         }
@@ -983,7 +983,7 @@ public final class PullThePlug {
             return;
         }
         int lake = draw(land.size());
-        if (told == 2) {
+        if (what == 2) {
             trial.out ^= 1 << lake;
         } else if (land.has(lake)) {
             trial.tap[lake] = draw(MOST_TAP + 1);
