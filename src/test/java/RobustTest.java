@@ -72,7 +72,7 @@ public final class RobustTest {
 
     private static void call(PullThePlug x, Method m, int[] numbers) throws IllegalAccessException {
         String name = m.getName() + Arrays.toString(numbers);
-        List<Long> ahead = seen(x);
+        List<Long> ahead = Check.seen(x);
         Object[] boxed = new Object[numbers.length];
         for (int i = 0; i < numbers.length; i++) {
             boxed[i] = numbers[i];
@@ -85,7 +85,7 @@ public final class RobustTest {
             check.due(name + " may throw", may && e.getCause() instanceof NoSuchElementException, true);
             answer = -1;
         }
-        List<Long> behind = seen(x);
+        List<Long> behind = Check.seen(x);
         boolean refused = answer.equals(-1) || answer.equals(false);
         boolean reads = READING.contains(m.getName());
         if (reads) {
@@ -100,25 +100,5 @@ public final class RobustTest {
             List<Long> b = behind.subList(0, behind.size() - 10);
             check.due(name + " is a question", a.equals(b), true);
         }
-    }
-
-    /** All that can be seen without a change: first THE TEXT's length, last the ROW. */
-    private static List<Long> seen(PullThePlug x) {
-        List<Long> all = new ArrayList<>();
-        all.add((long) x.count(11));
-        for (int what = 0; what <= 9; what++) {
-            all.add((long) x.count(what));
-        }
-        all.add((long) x.count(12));
-        for (int lake = 0; lake < 6; lake++) {
-            for (int what = 0; what < 9; what++) {
-                all.add(Check.lakeOf(x, lake, what));
-            }
-        }
-        all.add((long) x.count(10));
-        for (int i = 0; i < 9; i++) {
-            all.add(Check.rowOf(x, i));
-        }
-        return all;
     }
 }
