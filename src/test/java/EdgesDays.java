@@ -525,6 +525,7 @@ final class EdgesDays {
         c.due("the plug is out", x.count(5), 1);
         x.keep(0);
         x.pulls(1);
+        x.keep(1);
         c.due("keep() forgets none", x.count(9), 1);
         x.again(0);
         c.due("again()", x.count(9), 0);

@@ -2,7 +2,7 @@
 final class EdgesKept {
     private static final String THREE = "3020a-;1201b0;2010a0";
     private static final long THROWS = Check.THROWS;
-    private static final int[] NO_NUMBER = {-1, 2, 31, 32, Integer.MIN_VALUE, Integer.MAX_VALUE};
+    private static final int[] NO_NUMBER = {-1, 2, 31, 32, 33, Integer.MIN_VALUE, Integer.MAX_VALUE};
 
     // ---- Promise 47
 

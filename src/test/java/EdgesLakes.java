@@ -39,6 +39,8 @@ final class EdgesLakes {
         }
         c.due("four signs of number 255", x.sign(-1), 4);
         c.due("none of them can stand", x.lakes(), -1);
+        c.due("four signs of 128 and a digit", x.sign(0xB1B0B0B0), 4);
+        c.due("they are no digits", x.lakes(), -1);
         c.due("four signs of number 0", x.sign(0), 4);
     }
 

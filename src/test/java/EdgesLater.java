@@ -55,6 +55,8 @@ final class EdgesLater {
         PullThePlug x = Check.made("9900a-;9900a0", "l*(n=2)", 3);
         x.sheet(2, 2, 5, 2);
         c.due("in 3, and from then on", x, x.dries(1), 3, 7);
+        PullThePlug slow = Check.made("9901a-", 3, 0);
+        c.due("by 1 a DAY", slow, slow.dries(0), 3, 0);
         // LAKE 0 is dry, gets what LAKE 1 has, and is dry again.
         PullThePlug y = Check.made("9900a-;9900a0", "l", 3);
         y.sheet(2, 2, 0, 9);

@@ -27,6 +27,8 @@ final class EdgesPlugs {
         x.pulls(1);
         c.due("it came behind 1", x, x.lets(0, 1), 1, 2);
         c.due("it went behind 2", x, x.lets(0, 2), 0, 0);
+        x.sheet(2, 2, 0, 50);
+        c.due("dry now, and not behind 1", x, x.lets(0, 1), 1, 2);
     }
 
     @Says(promise = 27, words = "The fewest plugs to be touched now (pulled, or put in)")
@@ -41,6 +43,8 @@ final class EdgesPlugs {
         y.pulls(0);
         y.pulls(2);
         c.due("none", y, y.lets(0, 1), 0, 0);
+        PullThePlug z = Check.made(TENS, "l", 0);
+        c.due("one alone, though others might be touched, too", z, z.lets(0, 1), 1, 1);
     }
 
     @Says(promise = 27, words = "the ROW: they (bits: of as few the least).")
@@ -98,8 +102,8 @@ final class EdgesPlugs {
         c.due("in 39", x, x.just(1, 39), 1, 1);
         c.due("in 40", x, x.just(1, 40), 0, 0);
         c.due("both in 40", x, x.just(3, 40), 1, 2);
-        x.sheet(2, 2, 0, 5);
-        c.due("dry in 0", x, x.just(1, 0), 0, 0);
+        x.sheet(2, 2, 0, 1);
+        c.due("dry in 0, the other in 1", x, x.just(1, 0), 0, 0);
     }
 
     @Says(promise = 28, words = "Likewise by which just some LAKES (bits)")

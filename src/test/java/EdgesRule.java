@@ -146,8 +146,8 @@ final class EdgesRule {
         PullThePlug x = Check.made("9920a-;5030b-;9999c-", "0", 5);
         x.days(4);
         x.sheet(2, 3, 60, -10);
-        String[] rules = {"l", "b-50", "h", "t", "k"};
-        int[] runs = {60, 49, 4, 2, 2};
+        String[] rules = {"l-50", "b-50", "h", "t", "k"};
+        int[] runs = {10, 49, 4, 2, 2};
         for (int i = 0; i < rules.length; i++) {
             Check.rule(x, rules[i]);
             c.due("RUN of 0 by " + rules[i], Check.lakeOf(x, 0, 8), runs[i]);

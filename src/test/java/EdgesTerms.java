@@ -18,8 +18,9 @@ final class EdgesTerms {
     }
 
     @Says(promise = 0, words = "public static final int NONE = -1;")
-    static void noneIsMinusOne(Check c) {
-        c.due("NONE", PullThePlug.NONE, -1);
+    static void noneIsMinusOne(Check c) throws ReflectiveOperationException {
+        // The compiler would put the constant's number here in its place.
+        c.due("NONE", PullThePlug.class.getField("NONE").getInt(null), -1);
     }
 
     // ---- LAKES

@@ -238,6 +238,8 @@ final class EdgesYears {
         PullThePlug asked = Check.made(lakes);
         PullThePlug done = Check.made(lakes);
         doDrawn(done, seed, n);
+        // What was drawn for another question does not matter.
+        asked.years(seed + 1, 60);
         c.due("years(" + seed + ", " + n + ")", asked, asked.years(seed, n), done.count(4), done.count(2), done.count(3));
     }
 
