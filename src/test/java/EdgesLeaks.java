@@ -151,6 +151,7 @@ final class EdgesLeaks {
         c.due("LAKE 2 in 1", x, x.reads(), 43, 10);
         PullThePlug y = Check.made("0900a-", 5, 0);
         c.due("1 .. 4 differ, 5 .. 9 do not", y, y.reads(), 1, 5);
+        c.due("asked once more", y, y.reads(), 1, 5);
         PullThePlug z = Check.made("9990a-");
         c.due("all are hidden", z, z.reads(), 0, 9);
     }

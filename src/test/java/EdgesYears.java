@@ -33,6 +33,7 @@ final class EdgesYears {
     @Says(promise = 42, words = "(it stays, if there is none)")
     static void duckStaysIfThereIsNoWay(Check c) {
         PullThePlug x = Check.made("1000a-;1000a-;1000a1");
+        c.due("it stays a DAY", x, x.duck(0, 0, 1), 0, 1, 1);
         c.due("it stays", x, x.duck(0, 0, 10), 0, 1, 1);
         c.due("it is on no other", x, x.duck(0, 1, 10), 0, 0, 1);
         c.due("one that has a way does not stay", x, x.duck(1, 1, 1), 0, 0, 1);
@@ -286,6 +287,10 @@ final class EdgesYears {
             c.due("years(" + seed + ", 60)", none, none.years(seed, 60), 0, 0, 0);
         }
         c.due("DAY", none.count(1), 0);
+        for (int seed = 0; seed < 9; seed++) {
+            // With one LAKE it is drawn which one all the same.
+            drawn(c, "9951a-", seed, 60);
+        }
     }
 
     @Says(promise = 46, words = "LEVEL of all together then; the ROW: SPILT more, DRIED more in these.")
