@@ -42,7 +42,7 @@ public final class PullThePlug {
     private final int[] best = new int[(MOST_HEIRS + 1) * SETS];
     private Rule inForce = new Rule();
     private Rule otherRule = new Rule();
-    private Tidemarks tidemarks;
+    private Tidemarks tidemarkRoom;
     private int keptSlots;
     private int drawn;
 
@@ -498,7 +498,7 @@ public final class PullThePlug {
     }
 
     public int reads() {
-        takeTidemarks();
+        Tidemarks tidemarks = takeTidemarks();
         if (tidemarks.size() == 0) {
             return NOT_SO;
         }
@@ -1029,22 +1029,22 @@ public final class PullThePlug {
     }
 
     /** Takes down LEVELS of all DAYS by each leak that fits the rings. */
-    private void takeTidemarks() {
-        if (tidemarks == null) {
-            tidemarks = new Tidemarks();
-        }
+    private Tidemarks takeTidemarks() {
+        Tidemarks tidemarks = tidemarkRoom == null ? new Tidemarks() : tidemarkRoom;
+        tidemarkRoom = tidemarks;
         tidemarks.clear();
         for (int i = 0; i < land.size(); i++) {
             for (int more = 1; more <= MOST_LEAK; more++) {
                 startLeakTrial(i, more);
-                if (markTrial()) {
+                if (markTrial(tidemarks)) {
                     tidemarks.endLeak();
                 }
             }
         }
+        return tidemarks;
     }
 
-    private boolean markTrial() {
+    private boolean markTrial(Tidemarks tidemarks) {
         for (int day = 0; day <= RING_DAYS; day++) {
             if (!rings.fit(day, trial.level)) {
                 return false;
